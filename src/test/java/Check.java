@@ -1,0 +1,109 @@
+import java.util.function.IntPredicate;
+
+/** What the tests share: the count of wrong answers, and a look at the whole state of an object. */
+final class Check {
+    static final int NUMBERS = 512;
+    static final int MIN = Integer.MIN_VALUE;
+    static final int MAX = Integer.MAX_VALUE;
+    static final int[] WRONG_SETS = {MIN, -2, -1, 3, 4, 256, MAX};
+    static final int[] WRONG_NUMBERS = {MIN, -512, -2, -1, 512, 513, 1024, MAX};
+    static final int[][] WRONG_RANGES = {
+        {-1, 0}, {-1, 511}, {MIN, 5}, {MIN, MAX}, {0, 512}, {511, 512}, {512, 512}, {0, MAX}, {-1, 512},
+        {5, 4}, {511, 0}, {1, 0}, {-1, -1}, {-5, -3}, {0, -1}, {0, MIN}, {600, 700}, {512, 511}, {MAX, MIN}};
+
+    // An object is good for 512 calls, so a look at 512 numbers takes more than one object.
+    private static final int LOOKS_PER_OBJECT = 256;
+    private static final int MOST_LINES = 40;
+
+    private static int wrong = 0;
+
+    private Check() {
+    }
+
+    interface Calls {
+        void on(RoaringCodec x);
+    }
+
+    interface Question {
+        int ask(RoaringCodec x);
+    }
+
+    static void due(String what, Object got, Object want) {
+        if (!got.equals(want)) {
+            wrong++;
+            if (wrong <= MOST_LINES) {
+                System.out.println(what + " answered " + got + ", due is " + want);
+            }
+        }
+    }
+
+    static RoaringCodec after(Calls calls) {
+        RoaringCodec x = new RoaringCodec();
+        calls.on(x);
+        return x;
+    }
+
+    /** The answer of one call that follows the given ones on a new object. */
+    static void dueAfter(String what, Calls calls, Question call, int want) {
+        due(what, call.ask(after(calls)), want);
+    }
+
+    static void holds(String what, Calls calls, int set, String want) {
+        due("the numbers of set " + set + " after " + what, contents(calls, set), want);
+    }
+
+    /** The call must answer as due and leave the three sets and the tape as they were. */
+    static void changesNothing(String what, Calls calls, Question call, int want) {
+        dueAfter(what, calls, call, want);
+        due("the state after " + what, state(x -> {
+            calls.on(x);
+            call.ask(x);
+        }), state(calls));
+    }
+
+    /** A set's numbers, such as "0-4 7 510-511"; asked of has alone. */
+    static String contents(Calls calls, int set) {
+        boolean[] seen = new boolean[NUMBERS];
+        for (int start = 0; start < NUMBERS; start += LOOKS_PER_OBJECT) {
+            RoaringCodec x = after(calls);
+            for (int number = start; number < start + LOOKS_PER_OBJECT; number++) {
+                seen[number] = x.has(set, number) == 1;
+            }
+        }
+        return told(number -> seen[number]);
+    }
+
+    static String state(Calls calls) {
+        String tape = after(calls).read(0) < 0 ? "empty" : contents(x -> {
+            calls.on(x);
+            x.read(0);
+        }, 0);
+        return contents(calls, 0) + " | " + contents(calls, 1) + " | " + contents(calls, 2) + " | tape " + tape;
+    }
+
+    static String told(IntPredicate in) {
+        StringBuilder text = new StringBuilder();
+        int number = 0;
+        while (number < NUMBERS) {
+            int end = number;
+            while (end < NUMBERS && in.test(end)) {
+                end++;
+            }
+            if (end > number) {
+                text.append(text.length() == 0 ? "" : " ").append(number);
+                text.append(end - 1 > number ? "-" + (end - 1) : "");
+            }
+            number = end + 1;
+        }
+        return text.toString();
+    }
+
+    static void end() {
+        if (wrong > MOST_LINES) {
+            System.out.println("and " + (wrong - MOST_LINES) + " more");
+        }
+        if (wrong != 0) {
+            System.exit(1);
+        }
+    }
+}
