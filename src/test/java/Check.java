@@ -28,6 +28,10 @@ final class Check {
         int ask(RoaringCodec x);
     }
 
+    interface Numbers {
+        void into(RoaringCodec x, int set);
+    }
+
     static void due(String what, Object got, Object want) {
         if (!got.equals(want)) {
             wrong++;
@@ -41,6 +45,18 @@ final class Check {
         RoaringCodec x = new RoaringCodec();
         calls.on(x);
         return x;
+    }
+
+    /** The other two sets get just the other numbers, so that a look or a step into them would show. */
+    static Calls amongOthers(Numbers numbers, int set) {
+        return x -> {
+            for (int each = 0; each < 3; each++) {
+                numbers.into(x, each);
+                if (each != set) {
+                    x.flip(each, 0, 511);
+                }
+            }
+        };
     }
 
     /** The answer of one call that follows the given ones on a new object. */

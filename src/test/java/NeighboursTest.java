@@ -6,22 +6,21 @@ public final class NeighboursTest {
     private static final int MAX = Check.MAX;
 
     public static void main(String[] args) {
-        walk("an empty set", x -> { }, n -> false);
-        walk("a full set", x -> x.fill(1, 0, 511), n -> true);
-        walk("both ends", x -> {
-            x.add(1, 0);
-            x.add(1, 511);
+        walkAll("an empty set", (x, s) -> { }, n -> false);
+        walkAll("a full set", (x, s) -> x.fill(s, 0, 511), n -> true);
+        walkAll("both ends", (x, s) -> {
+            x.add(s, 0);
+            x.add(s, 511);
         }, n -> n == 0 || n == 511);
-        walk("all but the ends", x -> x.fill(1, 1, 510), n -> n > 0 && n < 511);
-        walk("every second", x -> {
-            x.sow(1, 0, 256 * 2 + 200);
-            x.sow(1, 400, 256 * 2 + 200);
+        walkAll("all but the ends", (x, s) -> x.fill(s, 1, 510), n -> n > 0 && n < 511);
+        walkAll("every second", (x, s) -> {
+            x.sow(s, 0, 256 * 2 + 200);
+            x.sow(s, 400, 256 * 2 + 200);
         }, n -> n % 2 == 0);
-        walk("three stretches", x -> {
-            x.fill(1, 60, 70);
-            x.fill(1, 72, 128);
-            x.fill(1, 300, 511);
-            x.fill(0, 0, 511);
+        walkAll("three stretches", (x, s) -> {
+            x.fill(s, 60, 70);
+            x.fill(s, 72, 128);
+            x.fill(s, 300, 511);
         }, n -> n >= 60 && n <= 128 && n != 71 || n >= 300);
         runsJoinAndPart();
         runsDoNotReachIntoTheNextSet();
@@ -37,7 +36,13 @@ public final class NeighboursTest {
         return none;
     }
 
-    private static void walk(String name, Check.Calls calls, IntPredicate in) {
+    private static void walkAll(String name, Check.Numbers numbers, IntPredicate in) {
+        for (int set = 0; set < 3; set++) {
+            walk(name, Check.amongOthers(numbers, set), set, in);
+        }
+    }
+
+    private static void walk(String name, Check.Calls calls, int s, IntPredicate in) {
         int least = first(0, 1, in, -2);
         int greatest = first(511, -1, in, -2);
         for (int at = -3; at <= 514; at++) {
@@ -46,19 +51,19 @@ public final class NeighboursTest {
             int next = n < 0 ? least : first(n, 1, in, -2);
             int previous = n > 511 ? greatest : first(n, -1, in, -2);
             int gap = good ? first(n, 1, in.negate(), -3) : -2;
-            Check.dueAfter("next(1, " + n + ") of " + name, calls, x -> x.next(1, n), next);
-            Check.dueAfter("previous(1, " + n + ") of " + name, calls, x -> x.previous(1, n), previous);
-            Check.dueAfter("gap(1, " + n + ") of " + name, calls, x -> x.gap(1, n), gap);
+            Check.dueAfter("next(" + s + ", " + n + ") of " + name, calls, x -> x.next(s, n), next);
+            Check.dueAfter("previous(" + s + ", " + n + ") of " + name, calls, x -> x.previous(s, n), previous);
+            Check.dueAfter("gap(" + s + ", " + n + ") of " + name, calls, x -> x.gap(s, n), gap);
         }
-        Check.dueAfter("next(1, MIN) of " + name, calls, x -> x.next(1, MIN), least);
-        Check.dueAfter("next(1, MAX) of " + name, calls, x -> x.next(1, MAX), -2);
-        Check.dueAfter("previous(1, MIN) of " + name, calls, x -> x.previous(1, MIN), -2);
-        Check.dueAfter("previous(1, MAX) of " + name, calls, x -> x.previous(1, MAX), greatest);
-        Check.dueAfter("gap(1, MIN) of " + name, calls, x -> x.gap(1, MIN), -2);
-        Check.dueAfter("gap(1, MAX) of " + name, calls, x -> x.gap(1, MAX), -2);
+        Check.dueAfter("next(" + s + ", MIN) of " + name, calls, x -> x.next(s, MIN), least);
+        Check.dueAfter("next(" + s + ", MAX) of " + name, calls, x -> x.next(s, MAX), -2);
+        Check.dueAfter("previous(" + s + ", MIN) of " + name, calls, x -> x.previous(s, MIN), -2);
+        Check.dueAfter("previous(" + s + ", MAX) of " + name, calls, x -> x.previous(s, MAX), greatest);
+        Check.dueAfter("gap(" + s + ", MIN) of " + name, calls, x -> x.gap(s, MIN), -2);
+        Check.dueAfter("gap(" + s + ", MAX) of " + name, calls, x -> x.gap(s, MAX), -2);
         String told = Check.told(in);
         int runs = told.isEmpty() ? 0 : told.split(" ").length;
-        Check.dueAfter("runs(1) of " + name, calls, x -> x.runs(1), runs);
+        Check.dueAfter("runs(" + s + ") of " + name, calls, x -> x.runs(s), runs);
     }
 
     private static void runsJoinAndPart() {

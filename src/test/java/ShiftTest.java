@@ -3,35 +3,39 @@ import java.util.function.IntPredicate;
 /** Promise 9. */
 public final class ShiftTest {
     public static void main(String[] args) {
-        everyDistance("a full set", x -> x.fill(1, 0, 511), n -> true);
-        everyDistance("every third", x -> {
-            x.sow(1, 0, 256 * 3 + 171);
-            x.fill(0, 5, 6);
-        }, n -> n % 3 == 0);
-        everyDistance("both ends", x -> {
-            x.add(1, 0);
-            x.add(1, 511);
+        everyDistance("a full set", (x, s) -> x.fill(s, 0, 511), n -> true);
+        everyDistance("every third", (x, s) -> x.sow(s, 0, 256 * 3 + 171), n -> n % 3 == 0);
+        everyDistance("both ends", (x, s) -> {
+            x.add(s, 0);
+            x.add(s, 511);
         }, n -> n == 0 || n == 511);
-        everyDistance("an empty set", x -> { }, n -> false);
+        everyDistance("an empty set", (x, s) -> { }, n -> false);
         leavesTheRest();
         thereAndBack();
         Check.end();
     }
 
-    private static void everyDistance(String name, Check.Calls calls, IntPredicate in) {
-        for (int distance = -511; distance <= 511; distance++) {
-            int by = distance;
-            IntPredicate shifted = n -> n - by >= 0 && n - by <= 511 && in.test(n - by);
-            int size = 0;
-            for (int n = 0; n < Check.NUMBERS; n++) {
-                size += shifted.test(n) ? 1 : 0;
+    private static void everyDistance(String name, Check.Numbers numbers, IntPredicate in) {
+        for (int set = 0; set < 3; set++) {
+            Check.Calls calls = Check.amongOthers(numbers, set);
+            for (int by = -511; by <= 511; by++) {
+                oneShift("shift(" + set + ", " + by + ") of " + name, calls, set, by, in);
             }
-            String what = "shift(1, " + by + ") of " + name;
-            Check.dueAfter(what, calls, x -> x.shift(1, by), size);
+        }
+    }
+
+    private static void oneShift(String what, Check.Calls calls, int set, int by, IntPredicate in) {
+        IntPredicate shifted = n -> n - by >= 0 && n - by <= 511 && in.test(n - by);
+        int size = 0;
+        for (int n = 0; n < Check.NUMBERS; n++) {
+            size += shifted.test(n) ? 1 : 0;
+        }
+        Check.dueAfter(what, calls, x -> x.shift(set, by), size);
+        for (int each = 0; each < 3; each++) {
             Check.holds(what, x -> {
                 calls.on(x);
-                x.shift(1, by);
-            }, 1, Check.told(shifted));
+                x.shift(set, by);
+            }, each, Check.told(each == set ? shifted : in.negate()));
         }
     }
 
