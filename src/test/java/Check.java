@@ -3,13 +3,6 @@ import java.util.function.IntPredicate;
 /** What the tests share: the count of wrong answers, and a look at the whole state of an object. */
 final class Check {
     static final int NUMBERS = 512;
-    static final int MIN = Integer.MIN_VALUE;
-    static final int MAX = Integer.MAX_VALUE;
-    static final int[] WRONG_SETS = {MIN, -2, -1, 3, 4, 256, MAX};
-    static final int[] WRONG_NUMBERS = {MIN, -512, -2, -1, 512, 513, 1024, MAX};
-    static final int[][] WRONG_RANGES = {
-        {-1, 0}, {-1, 511}, {MIN, 5}, {MIN, MAX}, {0, 512}, {511, 512}, {512, 512}, {0, MAX}, {-1, 512},
-        {5, 4}, {511, 0}, {1, 0}, {-1, -1}, {-5, -3}, {0, -1}, {0, MIN}, {600, 700}, {512, 511}, {MAX, MIN}};
 
     // An object is good for 512 calls, so a look at 512 numbers takes more than one object.
     private static final int LOOKS_PER_OBJECT = 256;
@@ -28,6 +21,15 @@ final class Check {
         int ask(RoaringCodec x);
     }
 
+    interface Look {
+        boolean finds(RoaringCodec x, int set, int number);
+    }
+
+    static final Look BY_HAS = (x, set, number) -> x.has(set, number) == 1;
+
+    // For a look at what has itself leaves behind.
+    static final Look BY_GAP = (x, set, number) -> x.gap(set, number) != number;
+
     interface Numbers {
         void into(RoaringCodec x, int set);
     }
@@ -38,6 +40,20 @@ final class Check {
             if (wrong <= MOST_LINES) {
                 System.out.println(what + " answered " + got + ", due is " + want);
             }
+        }
+    }
+
+    /** Runs the test of one sentence of the document, and says so if the sentence is broken. */
+    static void sentence(String words, Runnable test) {
+        int before = wrong;
+        try {
+            test.run();
+        } catch (RuntimeException e) {
+            wrong++;
+            System.out.println(e);
+        }
+        if (wrong != before) {
+            System.out.println("BROKEN: " + words);
         }
     }
 
@@ -65,7 +81,7 @@ final class Check {
     }
 
     static void holds(String what, Calls calls, int set, String want) {
-        due("the numbers of set " + set + " after " + what, contents(calls, set), want);
+        due("the numbers of set " + set + " after " + what, contents(calls, set, BY_HAS), want);
     }
 
     /** The call must answer as due and leave the three sets and the tape as they were. */
@@ -77,24 +93,32 @@ final class Check {
         }), state(calls));
     }
 
-    /** A set's numbers, such as "0-4 7 510-511"; asked of has alone. */
-    static String contents(Calls calls, int set) {
+    /** A set's numbers, such as "0-4 7 510-511". */
+    static String contents(Calls calls, int set, Look look) {
         boolean[] seen = new boolean[NUMBERS];
         for (int start = 0; start < NUMBERS; start += LOOKS_PER_OBJECT) {
             RoaringCodec x = after(calls);
             for (int number = start; number < start + LOOKS_PER_OBJECT; number++) {
-                seen[number] = x.has(set, number) == 1;
+                seen[number] = look.finds(x, set, number);
             }
         }
         return told(number -> seen[number]);
     }
 
     static String state(Calls calls) {
+        return state(calls, BY_HAS);
+    }
+
+    static String state(Calls calls, Look look) {
         String tape = after(calls).read(0) < 0 ? "empty" : contents(x -> {
             calls.on(x);
             x.read(0);
-        }, 0);
-        return contents(calls, 0) + " | " + contents(calls, 1) + " | " + contents(calls, 2) + " | tape " + tape;
+        }, 0, look);
+        StringBuilder text = new StringBuilder();
+        for (int set = 0; set < 3; set++) {
+            text.append(contents(calls, set, look)).append(" | ");
+        }
+        return text + "tape " + tape;
     }
 
     static String told(IntPredicate in) {

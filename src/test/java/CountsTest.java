@@ -1,7 +1,7 @@
 /** Promises 12 to 15: has, size, rank and select. */
 public final class CountsTest {
-    private static final int MIN = Check.MIN;
-    private static final int MAX = Check.MAX;
+    private static final int MIN = Edges.MIN;
+    private static final int MAX = Edges.MAX;
 
     public static void main(String[] args) {
         hasAndSize();

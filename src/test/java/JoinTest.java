@@ -2,8 +2,6 @@
 public final class JoinTest {
     public static void main(String[] args) {
         everyKindAndPair();
-        withItself();
-        withEmptyAndFull();
         Check.end();
     }
 
@@ -47,30 +45,6 @@ public final class JoinTest {
                 three(x);
                 x.join(kind, a, b);
             }, s, want);
-        }
-    }
-
-    private static void withItself() {
-        Check.Calls some = x -> x.fill(1, 10, 20);
-        Check.dueAfter("join(0, 1, 1)", some, x -> x.join(0, 1, 1), 11);
-        Check.dueAfter("join(1, 1, 1)", some, x -> x.join(1, 1, 1), 11);
-        Check.dueAfter("join(2, 1, 1)", some, x -> x.join(2, 1, 1), 0);
-        Check.dueAfter("join(3, 1, 1)", some, x -> x.join(3, 1, 1), 0);
-    }
-
-    private static void withEmptyAndFull() {
-        int[] dueWithEmpty = {0, 11, 11, 11};
-        int[] dueWithFull = {11, 512, 501, 0};
-        int[] dueOfFull = {11, 512, 501, 501};
-        for (int kind = 0; kind < 4; kind++) {
-            int k = kind;
-            Check.Calls some = x -> {
-                x.fill(0, 10, 20);
-                x.fill(2, 0, 511);
-            };
-            Check.dueAfter("join(" + k + ") with an empty set", some, x -> x.join(k, 0, 1), dueWithEmpty[k]);
-            Check.dueAfter("join(" + k + ") with a full set", some, x -> x.join(k, 0, 2), dueWithFull[k]);
-            Check.dueAfter("join(" + k + ") of a full set", some, x -> x.join(k, 2, 0), dueOfFull[k]);
         }
     }
 }

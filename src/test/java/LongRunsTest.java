@@ -1,3 +1,7 @@
+import java.util.ArrayList;
+import java.util.Collections;
+import java.util.List;
+
 /** Runs of 512 mixed calls, the most an object is used for, each answer compared with the model's. */
 public final class LongRunsTest {
     private static final int RUNS = 600;
@@ -6,9 +10,13 @@ public final class LongRunsTest {
         0, 1, 2, 3, 63, 64, 65, 127, 128, 129, 255, 256, 257, 383, 384, 510, 511, 512, 513, -1, -2, -511, -512,
         Integer.MIN_VALUE, Integer.MAX_VALUE};
 
+    private static final List<String> NAMES = new ArrayList<>();
+
     private static long seed;
 
     public static void main(String[] args) {
+        Collections.addAll(NAMES, Call.CHANGES);
+        Collections.addAll(NAMES, Call.QUESTIONS);
         for (int run = 1; run <= RUNS; run++) {
             seed = run;
             oneRun(run);
@@ -20,18 +28,23 @@ public final class LongRunsTest {
         RoaringCodec x = new RoaringCodec();
         Model model = new Model();
         for (int call = 1; call <= CALLS; call++) {
-            String name = Model.NAMES[below(Model.NAMES.length)];
-            int p = name.equals("join") ? below(12) == 0 ? edge() : below(4) : set();
-            int q = isOfTwoSets(name) ? set() : number();
-            int r = name.equals("join") ? set() : name.equals("sow") ? rule() : number();
-            if (name.equals("shift")) {
-                q = below(8) == 0 ? edge() : below(41) - 20;
-            } else if (isOfRange(name) && q >= 0 && q < 512 && below(12) != 0) {
-                r = q + below(Math.min(60, 512 - q));
-            }
-            String what = "run " + run + ", call " + call + ": " + name + "(" + p + ", " + q + ", " + r + ")";
-            Check.due(what, Model.ask(x, name, p, q, r), model.due(name, p, q, r));
+            Call next = nextCall();
+            String what = "run " + run + ", call " + call + ": " + next;
+            Check.due(what, next.on(x), model.due(next));
         }
+    }
+
+    private static Call nextCall() {
+        String name = NAMES.get(below(NAMES.size()));
+        int p = name.equals("join") ? below(12) == 0 ? edge() : below(4) : set();
+        int q = isOfTwoSets(name) ? set() : number();
+        int r = name.equals("join") ? set() : name.equals("sow") ? rule() : number();
+        if (name.equals("shift")) {
+            q = below(8) == 0 ? edge() : below(41) - 20;
+        } else if (isOfRange(name) && q >= 0 && q < 512 && below(12) != 0) {
+            r = q + below(Math.min(60, 512 - q));
+        }
+        return new Call(name, p, q, r);
     }
 
     private static boolean isOfTwoSets(String name) {

@@ -7,41 +7,11 @@ final class Model {
     private final List<TreeSet<Integer>> sets = List.of(new TreeSet<>(), new TreeSet<>(), new TreeSet<>());
     private TreeSet<Integer> tape = null;
 
-    static final String[] NAMES = {
-        "add", "remove", "fill", "clear", "flip", "sow", "join", "shift", "write", "read", "has", "size",
-        "rank", "select", "next", "previous", "gap", "runs", "common", "within", "same"};
-
-    static int ask(RoaringCodec x, String name, int p, int q, int r) {
-        switch (name) {
-            case "add": return x.add(p, q);
-            case "remove": return x.remove(p, q);
-            case "fill": return x.fill(p, q, r);
-            case "clear": return x.clear(p, q, r);
-            case "flip": return x.flip(p, q, r);
-            case "sow": return x.sow(p, q, r);
-            case "join": return x.join(p, q, r);
-            case "shift": return x.shift(p, q);
-            case "write": return x.write(p);
-            case "read": return x.read(p);
-            case "has": return x.has(p, q);
-            case "size": return x.size(p);
-            case "rank": return x.rank(p, q);
-            case "select": return x.select(p, q);
-            case "next": return x.next(p, q);
-            case "previous": return x.previous(p, q);
-            case "gap": return x.gap(p, q);
-            case "runs": return x.runs(p);
-            case "common": return x.common(p, q);
-            case "within": return x.within(p, q);
-            default: return x.same(p, q);
-        }
-    }
-
-    int due(String name, int p, int q, int r) {
-        switch (name) {
-            case "join": return dueOfJoin(p, q, r);
-            case "common": case "within": case "same": return dueOfPair(name, p, q);
-            default: return isSet(p) ? dueOfSet(name, sets.get(p), q, r) : -1;
+    int due(Call call) {
+        switch (call.name) {
+            case "join": return dueOfJoin(call.p, call.q, call.r);
+            case "common": case "within": case "same": return dueOfPair(call.name, call.p, call.q);
+            default: return isSet(call.p) ? dueOfSet(call.name, sets.get(call.p), call.q, call.r) : -1;
         }
     }
 

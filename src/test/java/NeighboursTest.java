@@ -2,8 +2,8 @@ import java.util.function.IntPredicate;
 
 /** Promises 16 to 19: next, previous, gap and runs. */
 public final class NeighboursTest {
-    private static final int MIN = Check.MIN;
-    private static final int MAX = Check.MAX;
+    private static final int MIN = Edges.MIN;
+    private static final int MAX = Edges.MAX;
 
     public static void main(String[] args) {
         walkAll("an empty set", (x, s) -> { }, n -> false);

@@ -1,8 +1,10 @@
 /** Promise 1. */
 public final class NewObjectTest {
     public static void main(String[] args) {
-        allIsEmpty();
-        objectsShareNothing();
+        Check.sentence("Promise 1: Everything is empty at first", () -> {
+            allIsEmpty();
+            objectsShareNothing();
+        });
         Check.end();
     }
 

@@ -4,7 +4,6 @@ public final class RangesTest {
         fills();
         clears();
         flips();
-        edges();
         Check.end();
     }
 
@@ -50,33 +49,5 @@ public final class RangesTest {
             y.flip(2, 15, 30);
             y.flip(0, 3, 3);
         }), "3 |  | 10-14 21-30 | tape empty");
-    }
-
-    private static void edges() {
-        int[][] ranges = {{0, 0}, {511, 511}, {0, 511}, {63, 64}, {127, 128}, {255, 256}, {1, 510}, {300, 300}};
-        for (int[] range : ranges) {
-            int first = range[0];
-            int last = range[1];
-            int length = last - first + 1;
-            String what = "(0, " + first + ", " + last + ")";
-            String inside = Check.told(n -> n >= first && n <= last);
-            String outside = Check.told(n -> n < first || n > last);
-            Check.Calls none = x -> { };
-            Check.Calls full = x -> x.fill(0, 0, 511);
-            Check.dueAfter("fill" + what, none, x -> x.fill(0, first, last), length);
-            Check.dueAfter("clear" + what + " of a full set", full, x -> x.clear(0, first, last), length);
-            Check.dueAfter("flip" + what, none, x -> x.flip(0, first, last), length);
-            Check.dueAfter("flip" + what + " of a full set", full, x -> x.flip(0, first, last), 512 - length);
-            Check.holds("fill" + what, x -> x.fill(0, first, last), 0, inside);
-            Check.holds("flip" + what, x -> x.flip(0, first, last), 0, inside);
-            Check.holds("clear" + what, x -> {
-                full.on(x);
-                x.clear(0, first, last);
-            }, 0, outside);
-            Check.holds("flip" + what + " of a full set", x -> {
-                full.on(x);
-                x.flip(0, first, last);
-            }, 0, outside);
-        }
     }
 }

@@ -2,8 +2,7 @@
 public final class SowTest {
     public static void main(String[] args) {
         sows();
-        everyStepAndCount();
-        wrongRules();
+        Check.sentence("Promise 7: rule is 256 * step + count", SowTest::everyStepAndCount);
         Check.end();
     }
 
@@ -41,19 +40,6 @@ public final class SowTest {
                 Check.due("greatest of " + what, x.previous(2, 511), first + (due - 1) * step);
                 Check.due("others beside " + what, x.size(0) + x.size(1), 0);
             }
-        }
-    }
-
-    private static void wrongRules() {
-        Check.Calls some = x -> x.fill(0, 10, 20);
-        int[] wrongStep = {0, 1, 200, 255, rule(101, 1), rule(101, 0), rule(101, 255), rule(200, 5), -1, -255, -256,
-            -257, -rule(5, 5), 65536 + rule(0, 1), Check.MAX, Check.MIN, Check.MIN + 257};
-        for (int rule : wrongStep) {
-            Check.changesNothing("sow(0, 0, " + rule + ")", some, x -> x.sow(0, 0, rule), -3);
-        }
-        int[] wrongCount = {rule(1, 0), rule(1, 201), rule(1, 255), rule(100, 0), rule(100, 201), rule(50, 255)};
-        for (int rule : wrongCount) {
-            Check.changesNothing("sow(0, 0, " + rule + ")", some, x -> x.sow(0, 0, rule), -4);
         }
     }
 }

@@ -4,7 +4,6 @@ public final class TapeTest {
         writesAndReads();
         laterChangesDoNotTouchTheTape();
         theLastWriteCounts();
-        anEmptySetIsNotAnEmptyTape();
         everySetToEverySet();
         Check.end();
     }
@@ -41,18 +40,6 @@ public final class TapeTest {
             x.write(0);
             x.write(1);
         }), "0-511 | 0 2 4 |  | tape 0 2 4");
-    }
-
-    private static void anEmptySetIsNotAnEmptyTape() {
-        RoaringCodec x = new RoaringCodec();
-        x.fill(1, 5, 9);
-        Check.due("write(0) of an empty set", x.write(0), 0);
-        Check.due("read(1) of a written empty set", x.read(1), 0);
-        Check.due("size(1)", x.size(1), 0);
-        x.add(2, 7);
-        x.write(2);
-        x.write(0);
-        Check.due("read(2) of an empty set in place of another", x.read(2), 0);
     }
 
     private static void everySetToEverySet() {
