@@ -263,9 +263,9 @@ public final class TermsEdgesTest {
                 Check.due("add as call " + call, filled.add(0, 512 - call), 1);
             }
             Call[] most = {
-                new Call("add", 3, 0), new Call("add", 0, 511), new Call("sow", 0, 0, 25800), new Call("flip", 0, 0, 511),
-                new Call("join", 1, 0, 1), new Call("shift", 0, 1), new Call("write", 0), new Call("read", 0),
-                new Call("size", 0), new Call("within", 0, 1)};
+                new Call("add", 3, 0), new Call("add", 0, 511), new Call("sow", 0, 0, 25800),
+                new Call("flip", 0, 0, 511), new Call("join", 1, 0, 1), new Call("shift", 0, 1),
+                new Call("write", 0), new Call("read", 0), new Call("size", 0), new Call("within", 0, 1)};
             for (Call each : most) {
                 RoaringCodec x = new RoaringCodec();
                 for (int call = 1; call < 512; call++) {
