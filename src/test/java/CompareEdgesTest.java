@@ -81,7 +81,7 @@ public final class CompareEdgesTest {
         });
     }
 
-    // The document does not say that a and b differ, so a set can be compared with itself.
+    // Only sets that are not good are refused, so a set can be compared with itself.
     private static void theSameSet(int set) {
         int[] sizes = {0, 512, 2};
         Check.Calls[] sets = {Edges.NEW, Edges.full(set), Edges.just(set, 0, 511)};

@@ -63,7 +63,7 @@ public final class TapeEdgesTest {
     }
 
     private static void aWrittenEmptySet(int set) {
-        Check.sentence("Promise 11: a tape to which an empty set was written is not empty", () -> {
+        Check.sentence("Terms: TAPE, which is empty or holds a written set: an empty one, too", () -> {
             for (int from = 0; from < 3; from++) {
                 Check.Calls before = Edges.both(written(Edges.NEW, from), Edges.full(set));
                 Edges.makes(before, 0, Edges.only(set, "", ""), "read", set);
